@@ -9,6 +9,9 @@ class TestKit {
     static final int[] TAKES = {0, 0, 1, 2, 2, 2, 2, 2, 2, 1, 2, 1, 1, 0, 1, 1, 1, 1};
     static final int[] PUTS = {1, 1, 0, 1, 1, 1, 1, 1, 1, 2, 2, 0, 0, 0, 0, 0, 0, 0};
 
+    /** So many tell enough; a test of a broken program ends then. */
+    private static final int MOST_FAULTS = 100;
+
     private static int wrong = 0;
     private static int sentences = 0;
     private static String sentence = "";
@@ -40,6 +43,9 @@ class TestKit {
     static void fault(String text) {
         wrong++;
         System.out.println(sentence + text);
+        if (wrong == MOST_FAULTS) {
+            finish();
+        }
     }
 
     static void finish() {
@@ -138,5 +144,11 @@ class TestKit {
     /** A seed of such states after which no block gets a condition. */
     static int plainSeed(int blocks) {
         return seedWith(new int[blocks]);
+    }
+
+    /** How many instructions a condition of the kind has, with its junk. */
+    static int conditionSize(int kind, int height) {
+        int[] sizes = {0, 8, 9, 13};
+        return kind == 0 ? 0 : sizes[kind] + height + 3;
     }
 }
