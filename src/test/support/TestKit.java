@@ -10,7 +10,7 @@ class TestKit {
     static final int[] PUTS = {1, 1, 0, 1, 1, 1, 1, 1, 1, 2, 2, 0, 0, 0, 0, 0, 0, 0};
 
     /** So many tell enough; a test of a broken program ends then. */
-    private static final int MOST_FAULTS = 100;
+    private static final int MOST_FAULTS = 20;
 
     private static int wrong = 0;
     private static int sentences = 0;
